@@ -321,12 +321,12 @@ public final class ChalkChain {
         int who = 0;
         int first = NONE;
         for (int one = 0; one < told.people; one++) {
-            for (int day = 0; day <= MOST_DAYS && !told.isBox(one); day++) {
-                if (entries.startedBy(falls, one, day, k)) {
-                    many++;
-                    who |= 1 << one;
-                    first = first == NONE ? 100 * one + day : first;
-                }
+            int start = told.isBox(one) ? NONE : entries.startOf(falls, one, k);
+            if (start != NONE) {
+                many += start == Entries.ANY_DAY ? MOST_DAYS + 1 : 1;
+                who |= 1 << one;
+                int firstDay = start == Entries.ANY_DAY ? 0 : start;
+                first = first == NONE ? 100 * one + firstDay : first;
             }
         }
         if (what == 0) {
@@ -392,16 +392,18 @@ public final class ChalkChain {
 
     /** The least of the smallest sets out of these without whom there is no WAY; NONE if there is none. */
     private int leastBar(int candidates, boolean withoutDirect) {
-        int least = NONE;
-        int fewest = MOST_PEOPLE + 1;
-        for (int set = 0; set <= candidates; set++) {
-            if ((set & ~candidates) == 0 && Integer.bitCount(set) < fewest
-                    && !told.hasWay(set, withoutDirect)) {
-                least = set;
-                fewest = Integer.bitCount(set);
+        if (told.hasWay(candidates, withoutDirect)) {
+            return NONE;
+        }
+        for (int size = 0; size < MOST_PEOPLE; size++) {
+            for (int set = 0; set <= candidates; set++) {
+                if ((set & ~candidates) == 0 && Integer.bitCount(set) == size
+                        && !told.hasWay(set, withoutDirect)) {
+                    return set;
+                }
             }
         }
-        return least;
+        return NONE;
     }
 
     private static long commonDivisor(long a, long b) {
@@ -1303,6 +1305,7 @@ public final class ChalkChain {
     /** What was TOLD and UNTOLD, and the TIME. */
     private static final class Entries {
         static final int NOBODY = -1;
+        static final int ANY_DAY = 100;
 
         int time;
         int count;
@@ -1356,16 +1359,20 @@ public final class ChalkChain {
             return true;
         }
 
-        boolean startedBy(Falls falls, int one, int day, int k) {
+        /** On which DAY one must have been TAKEN first; ANY_DAY if nobody was, NONE if it can't be. */
+        int startOf(Falls falls, int one, int k) {
+            int start = ANY_DAY;
             for (int entry = 0; entry < count; entry++) {
                 if (who[entry] != NOBODY && counts(entry, k)) {
                     int behind = falls.takenOn[pair(one, who[entry])];
-                    if (behind == NONE || day + behind != days[entry]) {
-                        return false;
+                    int day = days[entry] - behind;
+                    if (behind == NONE || day < 0 || start != ANY_DAY && start != day) {
+                        return NONE;
                     }
+                    start = day;
                 }
             }
-            return true;
+            return start;
         }
     }
 }

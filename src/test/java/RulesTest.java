@@ -94,15 +94,6 @@ public final class RulesTest {
         while (imports.find()) {
             due("rule 4: import " + imports.group(1), imports.group(1).equals("java.util.Arrays"));
         }
-            }
-
-    private static int count(String code, String pattern) {
-        Matcher m = Pattern.compile(pattern).matcher(code);
-        int many = 0;
-        while (m.find()) {
-            many++;
-        }
-        return many;
     }
 
     /** Methods are found by their indentation: four or eight blanks, a head with a bracket, a brace. */
