@@ -9,6 +9,7 @@ public final class PromiseTest {
         feed();
         end();
         city();
+        cityAnew();
         cityLimits();
         fault();
         faultPlaces();
@@ -196,6 +197,32 @@ public final class PromiseTest {
         due("city: an empty text", x.city(), 0);
     }
 
+    /** Nothing of an earlier CITY, or of a text with a FAULT, is left in a later one. */
+    private static void cityAnew() {
+        ChalkChain x = new ChalkChain();
+        String full = "one a box slow 9 holds 9 risk 9 keeps 9;one b bought slow 9 holds 9 risk 9 keeps 9;"
+                + one("c", 9, 0, 9, 9) + gives("ab1", "bc1", "ca1", "cb1") + "from a;to c;luck 9;";
+        String bare = one("a", 0, 5, 0, 0) + one("b", 0, 5, 0, 0) + one("c", 0, 5, 0, 0);
+        String[] texts = {full, full, full + "?", bare, bare};
+        for (String text : texts) {
+            Check.tell(x, text);
+        }
+        due("anew: gives lines", x.about(1), 0);
+        due("anew: GATE", x.about(2), NONE);
+        due("anew: SEA", x.about(3), NONE);
+        x.late(7, 1);
+        due("anew: luck", x.spies(0, 0), 3);
+        due("anew: BOX", x.taken(0, 3), 1);
+        due("anew: knows", x.knows(1), 0);
+        due("anew: apart", x.apart(), 0);
+        Check.tell(x, full);
+        Check.tell(x, bare + gives("ab1", "bc1"));
+        due("anew: FALL", x.fall(1, 0, 1), 1);
+        due("anew: tells at once", x.take(2), 1);
+        x.day(1);
+        due("anew: is GONE", x.one(1, 0), 2);
+    }
+
     private static void cityLimits() {
         String[] twelve = {"a", "b", "c", "d", "e", "f", "g", "h", "i", "j", "k", "l"};
         String all = plain(twelve);
@@ -256,6 +283,9 @@ public final class PromiseTest {
         dueFault("one", 2, 3);
         dueFault("one  \n ", 2, 7);
         dueFault("one 1", 2, 4);
+        dueFault("one ;", 2, 4);
+        dueFault("from ;", 2, 5);
+        dueFault("luck ;", 2, 5);
         dueFault("one blind", 2, 4);
         dueFault("one a a", 2, 6);
         dueFault("one a blind box", 2, 12);
@@ -531,6 +561,8 @@ public final class PromiseTest {
         due("blind does not see", y.fall(0, 1, 1), NONE);
         due("blind does not tell", y.fall(1, 0, 0), NONE);
         due("who KNOWS a blind one sees", y.fall(1, 0, 1), 1);
+        ChalkChain slow = told(one("a", 9, 9, 0, 0) + "one b blind slow 0 holds 1 risk 0 keeps 0;" + gives("ab1"));
+        due("the slowest sees", slow.fall(1, 0, 1), 10);
         // The longest FALL: twelve in a row, each holding 9 and slow 9.
         StringBuilder row = new StringBuilder();
         String letters = "abcdefghijkl";
@@ -1026,6 +1058,17 @@ public final class PromiseTest {
         dueThing("back(0) again", x, 0, 0, 0, NONE, 1, 4);
         due("back(2) of nothing", x.back(2), NONE);
         due("back(2): nothing was done", x.about(4), 2);
+        due("back(32)", x.back(32), NONE);
+        ChalkChain y = told(one("a", 9, 9, 0, 0) + one("b", 9, 9, 0, 0) + one("c", 9, 9, 0, 0) + gives("ca1", "cb1"));
+        y.image(2);
+        y.meet(0, 1, 2);
+        due("ahead of back(2): whom he KNOWS", y.one(0, 2), 6);
+        y.image(1);
+        y.back(2);
+        due("back(2): whom he KNOWS", y.one(0, 2), 4);
+        y.back(1);
+        due("back(1): whom he KNOWS", y.one(0, 2), 6);
+        due("back(1): they have met", y.meet(0, 1, 2), false);
     }
 
     private static void about() {
