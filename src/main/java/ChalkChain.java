@@ -267,7 +267,7 @@ public final class ChalkChain {
     }
 
     public int late(int people, int days) {
-        if (people < 1 || (people & ~told.everybody()) != 0) {
+        if ((people & ~told.everybody()) != 0) {
             return NONE;
         }
         return entries.tell(Entries.NOBODY, people, days);

@@ -794,7 +794,7 @@ final class Model {
     }
 
     int late(int people, int days) {
-        return people <= 0 || people >= 1 << n() ? NONE : add(true, people, days);
+        return people < 0 || people >= 1 << n() ? NONE : add(true, people, days);
     }
 
     int taken(int one, int day) {

@@ -146,6 +146,7 @@ public final class ModelTest {
         switch (chance.nextInt(8)) {
             case 0, 1 -> {
                 int over = chance.nextInt(20) == 0 ? chance.nextInt(10000) - 100 : chance.nextInt(1 << people);
+                over = chance.nextInt(20) == 0 ? 0 : over;
                 int days = chance.nextInt(4) == 0 ? upTo(99) : chance.nextInt(4);
                 due("late(" + over + "," + days + ")", x.late(over, days), model.late(over, days));
             }

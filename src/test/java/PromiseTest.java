@@ -117,6 +117,8 @@ public final class PromiseTest {
         due("new: thing(0, 0)", x.thing(0, 0), -4);
         due("new: gap()", x.gap(), NONE);
         due("new: late(1, 0)", x.late(1, 0), NONE);
+        due("new: late(-1, 0)", x.late(-1, 0), NONE);
+        due("new: late(0, 100)", x.late(0, 100), NONE);
         due("new: taken(0, 0)", x.taken(0, 0), NONE);
         due("new: untell(0)", x.untell(0), false);
         due("new: spies(0, 0)", x.spies(0, 0), 1);
@@ -869,7 +871,8 @@ public final class PromiseTest {
         ChalkChain x = told(plain("a", "b", "c") + "luck 0;");
         due("late(8, 0)", x.late(8, 0), NONE);
         due("late(1, 100)", x.late(1, 100), NONE);
-        due("late over nobody", x.late(0, 1), NONE);
+        due("late(0, 100)", x.late(0, 100), NONE);
+        due("late(0, -1)", x.late(0, -1), NONE);
         for (int wrong : WRONG) {
             due("late(" + wrong + ", 0)", x.late(wrong, 0), NONE);
             due("late(1, " + wrong + ")", x.late(1, wrong), NONE);
@@ -880,8 +883,30 @@ public final class PromiseTest {
             due("late", x.late(1, 0), i);
         }
         due("a 41st", x.late(1, 0), NONE);
+        due("a 41st over nobody", x.late(0, 0), NONE);
         due("a 41st taken", x.taken(0, 0), NONE);
         due("a 41st: ENTRIES", x.about(6), 40);
+        lateOverNobody();
+    }
+
+    /** The bits 0 are a set of PEOPLE as others are. */
+    private static void lateOverNobody() {
+        ChalkChain x = new ChalkChain();
+        due("new: late(0, 0)", x.late(0, 0), 0);
+        due("new: late(0, 99)", x.late(0, 99), 1);
+        due("new: ENTRIES", x.about(6), 2);
+        due("new: as 99 DAYS are no luck", x.spies(0, 0), 0);
+        due("new: untell(1)", x.untell(1), true);
+        due("new: UNTOLD", x.spies(0, 0), 1);
+        ChalkChain y = told(plain("a", "b") + "luck 2;");
+        due("late(0, 0)", y.late(0, 0), 0);
+        due("late(0, 2)", y.late(0, 2), 1);
+        due("over nobody, by luck alone", y.spies(0, 0), 4);
+        due("over nobody: nobody was TAKEN", y.origins(0, 0), 200);
+        y.later(1);
+        due("late(0, 3)", y.late(0, 3), 2);
+        due("over nobody, no set accounts for it", y.spies(0, 1), 0);
+        due("ahead of it", y.spies(0, 0), 4);
     }
 
     private static void taken() {
