@@ -1,6 +1,5 @@
 /** Each promise by hand: ordinary calls, the edges that the document names, wrong inputs. */
-public final class PromiseTest {
-    private static final int NONE = -1;
+public final class PromiseTest extends Lines {
     private static final Check CHECK = new Check();
     private static final int[] WRONG = {-1, Integer.MIN_VALUE, Integer.MAX_VALUE, -2, 1000000};
 
@@ -61,28 +60,6 @@ public final class PromiseTest {
         Check.tell(x, text);
         due("fault(0) of " + text, x.fault(0), 0);
         return x;
-    }
-
-    private static String one(String name, int slow, int holds, int risk, int keeps) {
-        return "one " + name + " slow " + slow + " holds " + holds + " risk " + risk + " keeps " + keeps + ";";
-    }
-
-    private static String plain(String... names) {
-        StringBuilder all = new StringBuilder();
-        for (String name : names) {
-            all.append(one(name, 0, 0, 0, 0));
-        }
-        return all.toString();
-    }
-
-    /** Steps such as "gs2": g gives to s, which takes 2. */
-    private static String gives(String... steps) {
-        StringBuilder all = new StringBuilder();
-        for (String step : steps) {
-            all.append("gives ").append(step.charAt(0)).append(' ').append(step.charAt(1)).append(" takes ")
-                    .append(step.charAt(2)).append(';');
-        }
-        return all.toString();
     }
 
     private static void dueWay(String call, ChalkChain x, int... way) {
