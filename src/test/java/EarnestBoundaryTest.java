@@ -104,6 +104,17 @@ public final class EarnestBoundaryTest extends Boundary {
         dueThing("from the last to the first", p, 0, 1, 0, NONE, 0, 3);
         p.day(1);
         due("from the last to the first", p.thing(0, 0), -3);
+        StringBuilder down = new StringBuilder(calm(LETTERS));
+        for (int i = 1; i < 12; i++) {
+            down.append(gives(LETTERS[i] + LETTERS[i - 1] + "1"));
+        }
+        ChalkChain o = told(down + "from l;to a;");
+        o.send();
+        for (int day = 0; day < 11; day++) {
+            dueThing("down all twelve, DAY " + day, o, 0, 11 - day, 0, NONE, 10 - day, day + 1);
+            o.day(1);
+        }
+        dueThing("down all twelve", o, 0, -3, 0, 11, NONE, NONE);
         // All twelve in a row, each step of 9 DAYS.
         StringBuilder row = new StringBuilder(calm(LETTERS));
         for (int i = 1; i < 12; i++) {
@@ -684,6 +695,15 @@ public final class EarnestBoundaryTest extends Boundary {
         ChalkChain u = told(calm("g", "s") + box("a") + gives("ga1", "as1") + ENDS);
         due("over a BOX", u.gap(), 0);
         dueWay("over a BOX", u, 0, 2, 1);
+        // Twelve in a row, of whom every second one makes his neighbours acquainted.
+        StringBuilder row = new StringBuilder(calm(LETTERS));
+        for (int i = 0; i < 12; i++) {
+            row.append(i > 0 && i % 2 == 1 ? gives(LETTERS[i] + LETTERS[i - 1] + "1") : "");
+            row.append(i < 11 && i % 2 == 1 ? gives(LETTERS[i] + LETTERS[i + 1] + "1") : "");
+        }
+        ChalkChain twelve = told(row + "from a;to k;");
+        due("five acquaintances among twelve", twelve.gap(), 5);
+        dueWay("five acquaintances among twelve", twelve, 0, 2, 4, 6, 8, 10);
         // The SEA is told first, the GATE last.
         ChalkChain r = told(calm("s", "c", "a", "g") + gives("cg1", "ca1", "as1") + ENDS);
         due("from the last to the first", r.gap(), 1);

@@ -390,6 +390,8 @@ public final class WayBoundaryTest extends Boundary {
         due("all by one", told(chain(12, 1, 0, 0)).apart(), 1);
         due("by one and without any", told(chain(12, 1, 0, 0) + gives("al1")).apart(), 2);
         due("over BOXES", told(plain("g", "s") + box("a") + box("b") + gives("ga1", "as1", "gb1", "bs1") + "from g;to s;").apart(), 2);
+        due("a ring back to the GATE is no other WAY", told(plain("g", "s", "a", "b") + gives("gs1", "ga1", "ab1", "bg1", "ag1")
+                + "from g;to s;").apart(), 1);
         // To go the shortest WAY g-a-d-s bars both others; two go apart all the same.
         due("not the shortest first", told(plain("g", "s", "a", "b", "c", "d")
                 + gives("ga1", "ad1", "ds1", "ab1", "bs1", "gc1", "cd1") + "from g;to s;").apart(), 2);
