@@ -31,17 +31,32 @@ abstract class Boundary extends Lines {
 
     /** The checks that follow stand under these words of the document's head. */
     static void head(String words) {
-        begin(0, "What it is", words);
+        begin(0, section("head", null), words);
     }
 
     /** The checks that follow stand under these words of the document's terms. */
     static void terms(String words) {
-        begin(0, "Terms", words);
+        begin(0, section("terms", null), words);
     }
 
     /** The checks that follow stand under these words of a promise. */
     static void promise(int number, String words) {
-        begin(number, "Promise " + number, words);
+        begin(number, section("promise", Integer.toString(number)), words);
+    }
+
+    /** The checks that follow stand under these words of what is not promised. */
+    static void rest(String words) {
+        begin(0, section("rest", null), words);
+    }
+
+    /** The document's section out of which a quotation of this sort is. */
+    static String section(String sort, String number) {
+        return switch (sort) {
+            case "head" -> "What it is";
+            case "terms" -> "Terms";
+            case "promise" -> "Promise " + number;
+            default -> "Not promised";
+        };
     }
 
     private static void begin(int number, String where, String words) {
@@ -50,8 +65,9 @@ abstract class Boundary extends Lines {
         promise = number;
         answers = 0;
         int from = DOCUMENT.indexOf("\n## " + where);
-        int to = from < 0 ? from : DOCUMENT.indexOf("\n## ", from + 1);
-        boolean stands = to > from && DOCUMENT.substring(from, to).contains(words);
+        int next = DOCUMENT.indexOf("\n## ", from + 1);
+        int to = next < 0 ? DOCUMENT.length() : next;
+        boolean stands = from >= 0 && DOCUMENT.substring(from, to).contains(words);
         CHECK.due(label + ": the document has these words", stands, true);
     }
 

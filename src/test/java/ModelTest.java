@@ -3,6 +3,9 @@ import java.util.Random;
 /** Runs of calls by chance (the same ones each time) on the program and on the naive model. */
 public final class ModelTest {
     private static final Check CHECK = new Check();
+    /** Calls that are compared; with those that only look around all stay under the 512 that an object is used for. */
+    private static final int MOST_CALLS = 440;
+    private static final int MOST_CALLS_AHEAD_OF_A_TOWN = 350;
 
     public static void main(String[] args) {
         int runs = args.length > 0 ? Integer.parseInt(args[0]) : 1500;
@@ -27,7 +30,7 @@ public final class ModelTest {
 
     private void play() {
         int towns = 1 + chance.nextInt(3);
-        for (int town = 0; town < towns && calls < 400; town++) {
+        for (int town = 0; town < towns && calls < MOST_CALLS_AHEAD_OF_A_TOWN; town++) {
             String text = new Towns(chance).make();
             feed(text);
             due("city() of " + text, x.city(), model.city());
@@ -35,7 +38,7 @@ public final class ModelTest {
             due("fault(1) of " + text, x.fault(1), model.fault(1));
             people = Math.max(1, x.about(0));
             int more = 20 + chance.nextInt(100);
-            for (int i = 0; i < more && calls < 505; i++) {
+            for (int i = 0; i < more && calls < MOST_CALLS; i++) {
                 step();
             }
         }
